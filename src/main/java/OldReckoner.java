@@ -832,7 +832,6 @@ public final class OldReckoner {
             large = false;
             chosen = 0;
             Arrays.fill(bitOf, 0);
-            quarrels[0] = false;
         }
 
         /** Takes the likenesses that could be dropped; false if there are too many. */

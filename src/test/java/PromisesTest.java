@@ -246,6 +246,7 @@ public final class PromisesTest {
             }
         }
         refused(4, x, "likeness 24", () -> x.likeness(0, 1, 1, 1), FULL);
+        refused(9, x, "told(24, 0) of twenty-four", () -> x.told(24, 0), BAD);
         refused(4, x, "likeness, bad and full", () -> x.likeness(0, 1, 1, 0), BAD);
         x.forget();
         due(4, "likeness 23 again", x.likeness(0, 1, 1, 1), 23);
@@ -454,6 +455,15 @@ public final class PromisesTest {
             chain.likeness(0, i / 3 * 11 + 1, 1, 1);
         }
         due(13, "ways(8, 0) by three at each turn", chain.ways(8, 0), 6561);
+        due(13, "ways(0, 0)", x.ways(0, 0), 1);
+        OldReckoner longest = new OldReckoner();
+        for (int i = 0; i < 9; i++) {
+            longest.likeness(0, 11 * i + 1, 1, 1);
+        }
+        due(13, "ways(9, 0) by nine", longest.ways(9, 0), 1);
+        wayIs(longest, 9, 0, 0, 1, 2, 3, 4, 5, 6, 7, 8);
+        factorIs(longest, 9, 0, 0, 1, 1);
+        spanIs(longest, 9, 0, 1, 1);
         int[][] bad = {{-1, 0}, {100, 0}, {0, -1}, {0, 80000}, {LEAST, 0}, {0, MOST}};
         for (int[] b : bad) {
             refused(13, x, "ways(" + b[0] + ", " + b[1] + ")", () -> x.ways(b[0], b[1]), BAD);
@@ -528,12 +538,47 @@ public final class PromisesTest {
         due(15, "factor(5, 0, 0, 0), LOW 5 * 10^14, HIGH LARGE", z.factor(5, 0, 0, 0), LARGE);
         due(15, "factor(5, 0, 1, 0)", z.factor(5, 0, 1, 0), LARGE);
         due(15, "factor(5, 0, 0, 1)", z.factor(5, 0, 0, 1), LARGE);
+        OldReckoner low = lowAloneIsLarge();
+        for (int i = 0; i < 4; i++) {
+            due(15, "factor(6, 0, .., ..), LOW alone being LARGE", low.factor(6, 0, i / 2, i % 2), LARGE);
+            due(16, "span(6, 0, .., ..), LOW alone being LARGE", low.span(6, 0, i / 2, i % 2), LARGE);
+        }
+        factorIs(low, 5, 0, 1, 3, 2000000000000L);
+        factorsThatCancel();
         int[][] bad = {{-1, 0, 0, 0}, {100, 0, 0, 0}, {7, -1, 0, 0}, {7, 80000, 0, 0}, {7, 0, 2, 0}, {7, 0, -1, 0},
             {7, 0, 0, 2}, {7, 0, 0, -1}};
         for (int[] b : bad) {
             refused(15, x, "factor with " + Arrays.toString(b),
                     () -> x.factor(b[0], b[1], b[2], b[3]), BAD);
         }
+    }
+
+    /** The LOW from 0 to 6 is 1 by 1.8 * 10^15, the HIGH 1 by 6 * 10^14. */
+    private static OldReckoner lowAloneIsLarge() {
+        OldReckoner x = withLikenesses(new int[] {2, 1, 1, 1}, new int[] {0, 12, 1, 1000},
+                new int[] {0, 23, 1, 1000}, new int[] {0, 34, 1, 1000}, new int[] {0, 45, 1, 1000},
+                new int[] {0, 56, 1, 900});
+        x.doubt(0, 1, 500);
+        return x;
+    }
+
+    /** Products that would be LARGE, were they not in lowest terms. */
+    private static void factorsThatCancel() {
+        int[] pairs = {1, 12, 23, 34, 45, 56};
+        int[][] above = {{1000, 1}, {1000, 1}, {1000, 1}, {1000, 1}, {1, 7}, {700, 1}};
+        int[][] below = {{1, 1000}, {1, 1000}, {1, 1000}, {1, 1000}, {7, 1}, {1, 700}};
+        int[][] back = {{1, 1000}, {1, 1000}, {1, 1000}, {1, 1000}, {1, 997}, {1000, 1}};
+        OldReckoner x = new OldReckoner();
+        OldReckoner y = new OldReckoner();
+        OldReckoner z = new OldReckoner();
+        for (int i = 0; i < 6; i++) {
+            x.likeness(0, pairs[i], above[i][0], above[i][1]);
+            y.likeness(0, pairs[i], below[i][0], below[i][1]);
+            z.likeness(0, pairs[i], back[i][0], back[i][1]);
+        }
+        factorIs(x, 6, 0, 0, 100000000000000L, 1);
+        factorIs(y, 6, 0, 0, 1, 100000000000000L);
+        factorIs(z, 6, 0, 0, 1, 997000000000L);
     }
 
     private static void span() {
@@ -547,6 +592,12 @@ public final class PromisesTest {
         spanIs(x, 55, 0, 1, 1);
         spanIs(x, 55, 1, 1, 1);
         due(16, "span(5, 0, 0, 0)", x.span(5, 0, 0, 0), NONE);
+        x.doubt(0, 1, 300);
+        spanIs(x, 1, 0, 7, 1);
+        spanIs(x, 1, 1, 13, 1);
+        spanIs(x, 10, 0, 1, 13);
+        spanIs(x, 10, 1, 1, 7);
+        x.doubt(0, 1, 50);
         x.likeness(0, 33, 2, 1);
         spanIs(x, 33, 1, 1, 1);
         for (int pair : new int[] {4, 45, 56, 68}) {
@@ -633,6 +684,19 @@ public final class PromisesTest {
         quarrelIs(x, 0, 104, 6);
         x.holds(4, 0, 7, 7);
         quarrelIs(x, 0, 101, 5, 102);
+        OldReckoner two = withLikenesses(new int[] {0, 1, 1, 1}, new int[] {0, 3, 1, 1}, new int[] {0, 31, 2, 1},
+                new int[] {0, 12, 1, 1}, new int[] {0, 20, 2, 1});
+        quarrelIs(two, 0, 100, 1, 2);
+        OldReckoner other = withLikenesses(new int[] {0, 1, 1, 1}, new int[] {0, 12, 1, 1}, new int[] {0, 20, 2, 1},
+                new int[] {0, 3, 1, 1}, new int[] {0, 31, 2, 1});
+        quarrelIs(other, 0, 0, 1, 2);
+        OldReckoner last = withLikenesses(new int[] {0, 1, 1, 1}, new int[] {0, 12, 1, 1}, new int[] {0, 20, 1, 1},
+                new int[] {0, 20, 2, 1});
+        quarrelIs(last, 0, 102, 3);
+        last.holds(2, 0, 1, 1);
+        last.likeness(0, 2, 1, 1);
+        last.holds(4, 0, 1, 1);
+        quarrelIs(last, 0, 0, 1, 3);
         OldReckoner whole = new OldReckoner();
         for (int i = 0; i < 10; i++) {
             whole.likeness(0, i == 9 ? 90 : 11 * i + 1, 1, 1);
@@ -675,6 +739,10 @@ public final class PromisesTest {
         quarrelIs(oneWay, 0, 0, 1, 2, 3, 4, 5, 6);
         oneWay.doubt(0, 1, 500);
         due(17, "quarrel(0, 0), a ring's HIGH alone being LARGE", oneWay.quarrel(0, 0), LARGE);
+        OldReckoner low = lowAloneIsLarge();
+        quarrelIs(low, 0);
+        low.likeness(0, 60, 1, 1);
+        due(17, "quarrel(0, 0), a ring's LOW alone being LARGE", low.quarrel(0, 0), LARGE);
     }
 
     private static void cure() {
@@ -765,6 +833,14 @@ public final class PromisesTest {
         refused(19, x, "heal(80000)", () -> x.heal(80000), BAD);
         x.likeness(0, 1, 7, 1);
         refused(19, x, "heal(0) with none that helps", () -> x.heal(0), NONE);
+        OldReckoner full = withLikenesses(new int[] {4, 1, 9, 1});
+        for (int i = 1; i < 24; i++) {
+            full.likeness(i == 23 ? 2 : 0, 1, i == 23 ? 2 : 1, 1);
+        }
+        due(19, "heal(0) of twenty-four", full.heal(0), 2);
+        due(19, "told(0, 10)", full.told(0, 10), 1);
+        due(19, "told(23, 10)", full.told(23, 10), 1);
+        due(30, "count(1)", full.count(1), 2);
     }
 
     private static void custom() {
@@ -913,6 +989,7 @@ public final class PromisesTest {
             due(25, "line " + i, x.line(i % 2 == 0 ? 1000000 : -1000000, 9, 7, 9999), i);
         }
         refused(25, x, "line 20", () -> x.line(0, 0, 0, 0), FULL);
+        refused(26, x, "amend(20, 0) of twenty", () -> x.amend(20, 0), BAD);
         refused(25, x, "line, bad and full", () -> x.line(0, 10, 0, 0), BAD);
         due(25, "amend(18, 0)", x.amend(18, 0), 1000000);
         due(25, "amend(19, 0)", x.amend(19, 0), -1000000);
@@ -1022,28 +1099,71 @@ public final class PromisesTest {
         sumsOfFarDenominators();
     }
 
+    /** Lines of 1 / (997 * 991 * b1 * b2 * b3) and some / (997 * 991 * 983 * 977); 997 * 991 cancels in the sum. */
+    private static OldReckoner farDenominators(int b1, int b2, int b3) {
+        OldReckoner x = withLikenesses(new int[] {0, 10, 1, 997}, new int[] {0, 21, 1, 991},
+                new int[] {0, 32, 1, b1}, new int[] {0, 43, 1, b2}, new int[] {0, 54, 1, b3},
+                new int[] {0, 62, 1, 983}, new int[] {0, 76, 1, 977});
+        x.line(1, 5, 0, 0);
+        x.line((int) cancelling(983L * 977, (long) b1 * b2 * b3), 7, 0, 0);
+        return x;
+    }
+
+    /** The least amount that, times one number, and another number make a sum that 997 * 991 divides. */
+    private static long cancelling(long other, long times) {
+        BigInteger shared = BigInteger.valueOf(997L * 991);
+        return BigInteger.valueOf(-other).multiply(BigInteger.valueOf(times).modInverse(shared))
+                .mod(shared).longValueExact();
+    }
+
     /** Sums that are small in lowest terms, but whose products on the way reach 10^18, or don't. */
     private static void sumsOfFarDenominators() {
-        OldReckoner x = withLikenesses(new int[] {0, 10, 1, 997}, new int[] {0, 21, 1, 991},
-                new int[] {0, 32, 1, 983}, new int[] {0, 43, 1, 977}, new int[] {0, 54, 1, 971},
-                new int[] {0, 63, 1, 967}, new int[] {0, 76, 1, 953});
-        long b = 977L * 971;
-        long d = 967L * 953;
         long shared = 997L * 991;
-        long amount = BigInteger.valueOf(-d).multiply(BigInteger.valueOf(b).modInverse(BigInteger.valueOf(shared)))
+        long d = 983L * 977;
+        OldReckoner near = farDenominators(790, 667, 2);
+        long b = 790L * 667 * 2;
+        totalIs(near, 0, 0, (d + cancelling(d, b) * b) / shared, b * d);
+        OldReckoner beyond = farDenominators(984, 357, 3);
+        due(28, "total(0, 0, 0): b * (d / g) is 10^18 and more", beyond.total(0, 0, 0), LARGE);
+        due(28, "total(0, 1, 1)", beyond.total(0, 1, 1), LARGE);
+        farNumerator(1041, false);
+        farNumerator(1042, false);
+        farNumerator(1041, true);
+        farNumerator(1042, true);
+        OldReckoner x = withLikenesses(new int[] {0, 10, 1000, 1}, new int[] {0, 21, 1000, 1},
+                new int[] {0, 32, 1000, 1});
+        x.line(999999, 3, 0, 0);
+        x.line(999999, 1, 0, 0);
+        x.line(999, 0, 0, 0);
+        totalIs(x, 0, 0, 999999999999999L, 1);
+        x.amend(2, 1000);
+        due(28, "total(0, 0, 0) of 10^15", x.total(0, 0, 0), LARGE);
+    }
+
+    /** A sum of small ones, with an above of so many times 10^9 that 983 * 977 brings to 10^18, or not quite. */
+    private static void farNumerator(int amount, boolean ahead) {
+        long shared = 997L * 991;
+        long more = 983L * 977;
+        OldReckoner x = withLikenesses(new int[] {0, 10, 1000, 997}, new int[] {0, 21, 1000, 991},
+                new int[] {0, 32, 1000, 1}, new int[] {0, 40, 1, 997}, new int[] {0, 54, 1, 991},
+                new int[] {0, 65, 1, 983}, new int[] {0, 76, 1, 977});
+        long above = amount * 1000000000L;
+        long small = BigInteger.valueOf(-above).multiply(BigInteger.valueOf(more))
                 .mod(BigInteger.valueOf(shared)).longValueExact();
-        x.line(1, 5, 0, 0);
-        x.line((int) amount, 7, 0, 0);
-        totalIs(x, 2, 0, d + amount * b, 983 * b * d);
-        totalIs(x, 1, 0, (d + amount * b) / 991, 983 * b * d);
-        due(28, "total(0, 0, 0): a product of 7 primes below 1000 on the way", x.total(0, 0, 0), LARGE);
-        due(28, "total(0, 0, 1)", x.total(0, 0, 1), LARGE);
-        x.clear();
-        x.line(1, 4, 0, 0);
-        x.line(1, 6, 0, 0);
-        totalIs(x, 0, 0, 977 + 967, 997L * 991 * 983 * 977 * 967);
-        x.line(1, 5, 0, 0);
-        due(28, "total(0, 0, 0): below is 6 primes, in lowest terms", x.total(0, 0, 0), LARGE);
+        if (ahead) {
+            x.line(amount, 3, 0, 0);
+        }
+        x.line((int) small, 7, 0, 0);
+        if (!ahead) {
+            x.line(amount, 3, 0, 0);
+        }
+        if (amount == 1041) {
+            long sum = (above * more + small) / shared;
+            long g = BigInteger.valueOf(sum).gcd(BigInteger.valueOf(more)).longValueExact();
+            totalIs(x, 0, 0, sum / g, more / g);
+        } else {
+            due(28, "total(0, 0, 0): a * (d / g) or c * (b / g) is 10^18 and more", x.total(0, 0, 0), LARGE);
+        }
     }
 
     private static void slip() {
@@ -1109,6 +1229,7 @@ public final class PromisesTest {
         }
         due(29, "slip(0, ..): line 19 twice", many.slip(0, (1 << 20) - 1 + (1 << 19)), 191);
         due(29, "slip(0, ..): line 19 out", many.slip(0, (1 << 19) - 1), 192);
+        due(29, "slip(0, 10^9) of twenty lines", many.slip(0, 1000000000), NONE);
         OldReckoner both = new OldReckoner();
         both.line(-60, 0, 0, 0);
         both.line(-120, 0, 0, 0);
@@ -1144,6 +1265,33 @@ public final class PromisesTest {
         x.amend(0, 500);
         x.amend(1, 600000);
         due(29, "slip(4, 1): the first that is tried, then one that is LARGE", x.slip(4, 1), LARGE);
+        slipHighAloneLarge();
+        slipTotalLarge();
+    }
+
+    /** LOW of TOTAL is 5 * 10^14, its HIGH would be 1.5 * 10^15; one that is taken out would be RIGHT. */
+    private static void slipHighAloneLarge() {
+        OldReckoner x = withLikenesses(new int[] {2, 1, 1000, 1}, new int[] {0, 12, 1000, 1},
+                new int[] {0, 23, 1000, 1});
+        x.doubt(0, 1, 500);
+        x.line(7, 3, 0, 0);
+        x.line(1000000, 0, 0, 0);
+        due(29, "slip(3, 7), HIGH alone being LARGE", x.slip(3, 7), LARGE);
+    }
+
+    /** TOTAL has a LARGE number below the line, but not with twice the first amount, which would be RIGHT. */
+    private static void slipTotalLarge() {
+        OldReckoner x = withLikenesses(new int[] {0, 10, 1, 2}, new int[] {0, 21, 1, 997}, new int[] {0, 32, 1, 991},
+                new int[] {0, 43, 1, 983}, new int[] {0, 54, 1, 977}, new int[] {0, 60, 1, 971},
+                new int[] {2, 70, 2, 1});
+        x.doubt(6, 1, 500);
+        x.line(1, 5, 0, 0);
+        x.line(1, 7, 0, 0);
+        x.line(-2, 0, 0, 0);
+        x.line(1, 6, 0, 0);
+        due(29, "slip(0, 0), TOTAL being LARGE", x.slip(0, 0), LARGE);
+        x.amend(0, 2);
+        due(29, "slip(0, 0) with twice the first amount", x.slip(0, 0), 0);
     }
 
     private static void count() {
