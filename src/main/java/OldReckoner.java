@@ -954,7 +954,6 @@ public final class OldReckoner {
         private int target;
         private int firstOpen;
         private int limit;
-        private Goal goal;
 
         Trail() {
             for (int i = 0; i <= MEASURES; i++) {
@@ -984,42 +983,41 @@ public final class OldReckoner {
             return row[i] % TURNED;
         }
 
-        void seekWays(int from, int to, Goal seeker) {
-            aim(to, 0, seeker);
+        void seekWays(int from, int to, Goal goal) {
+            aim(to, 0);
             limit = LONGEST_WAY;
-            extend(this, from, 1 << from, 0);
+            extend(this, goal, from, 1 << from, 0);
         }
 
         /** Whether there is a way k; then it is the row. */
-        boolean pickWay(int from, int to, int k, Picking picker) {
-            aim(to, 0, picker);
-            picker.passed = k;
+        boolean pickWay(int from, int to, int k, Picking goal) {
+            aim(to, 0);
+            goal.passed = k;
             for (int wanted = distance[from]; wanted <= LONGEST_WAY && !over; wanted++) {
-                picker.wanted = wanted;
+                goal.wanted = wanted;
                 limit = wanted;
-                extend(this, from, 1 << from, 0);
+                extend(this, goal, from, 1 << from, 0);
             }
             return over;
         }
 
         /** Each ring begins with its least number, so the rest of it has greater ones alone. */
-        void seekRings(Goal seeker) {
+        void seekRings(Goal goal) {
             over = false;
             for (int i = 0; i < 2 * opened && !over; i++) {
                 Likeness it = open[i / 2];
                 boolean turned = i % 2 == 1;
                 int from = turned ? it.a : it.b;
-                aim(turned ? it.b : it.a, i / 2 + 1, seeker);
+                aim(turned ? it.b : it.a, i / 2 + 1);
                 limit = MEASURES;
                 take(it, turned, 0);
-                extend(this, from, 1 << from, 1);
+                extend(this, goal, from, 1 << from, 1);
             }
         }
 
-        private void aim(int to, int first, Goal seeker) {
+        private void aim(int to, int first) {
             target = to;
             firstOpen = first;
-            goal = seeker;
             over = false;
             measureDistances();
         }
@@ -1048,22 +1046,20 @@ public final class OldReckoner {
 
         private void take(Likeness it, boolean turned, int depth) {
             row[depth] = turned ? it.number + TURNED : it.number;
-            Fraction low = turned ? it.high : it.low;
-            Fraction high = turned ? it.low : it.high;
             if (turned) {
-                lows[depth + 1].becomeProduct(lows[depth], low.below, low.above);
-                highs[depth + 1].becomeProduct(highs[depth], high.below, high.above);
+                lows[depth + 1].becomeProduct(lows[depth], it.high.below, it.high.above);
+                highs[depth + 1].becomeProduct(highs[depth], it.low.below, it.low.above);
             } else {
-                lows[depth + 1].becomeProduct(lows[depth], low.above, low.below);
-                highs[depth + 1].becomeProduct(highs[depth], high.above, high.below);
+                lows[depth + 1].becomeProduct(lows[depth], it.low.above, it.low.below);
+                highs[depth + 1].becomeProduct(highs[depth], it.high.above, it.high.below);
             }
         }
 
         /** Goes on from a measure in each way that meets no measure twice; met is bits by measures. */
-        private static void extend(Trail trail, int at, int met, int depth) {
+        private static void extend(Trail trail, Goal goal, int at, int met, int depth) {
             if (at == trail.target) {
                 trail.length = depth;
-                trail.goal.arrived(trail);
+                goal.arrived(trail);
                 return;
             }
             if (depth >= trail.limit) {
@@ -1075,7 +1071,7 @@ public final class OldReckoner {
                 if (next >= 0 && (met >> next & 1) == 0
                         && depth + 1 + trail.distance[next] <= trail.limit) {
                     trail.take(it, at != it.a, depth);
-                    extend(trail, next, met | 1 << next, depth + 1);
+                    extend(trail, goal, next, met | 1 << next, depth + 1);
                 }
             }
         }

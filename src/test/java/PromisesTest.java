@@ -598,6 +598,10 @@ public final class PromisesTest {
         spanIs(x, 10, 0, 1, 13);
         spanIs(x, 10, 1, 1, 7);
         x.doubt(0, 1, 50);
+        OldReckoner within = withLikenesses(new int[] {0, 1, 10, 1}, new int[] {2, 1, 10, 1});
+        within.doubt(1, 1, 200);
+        spanIs(within, 1, 0, 8, 1);
+        spanIs(within, 1, 1, 12, 1);
         x.likeness(0, 33, 2, 1);
         spanIs(x, 33, 1, 1, 1);
         for (int pair : new int[] {4, 45, 56, 68}) {
@@ -634,7 +638,8 @@ public final class PromisesTest {
                 product[way][1] = product[way][1].multiply(BigInteger.valueOf(q));
             }
         }
-        boolean firstIsLess = product[0][0].multiply(product[1][1]).compareTo(product[1][0].multiply(product[0][1])) < 0;
+        boolean firstIsLess = product[0][0].multiply(product[1][1])
+                .compareTo(product[1][0].multiply(product[0][1])) < 0;
         for (int end = 0; end < 2; end++) {
             BigInteger[] want = product[firstIsLess == (end == 0) ? 0 : 1];
             BigInteger g = want[0].gcd(want[1]);
@@ -743,6 +748,11 @@ public final class PromisesTest {
         quarrelIs(low, 0);
         low.likeness(0, 60, 1, 1);
         due(17, "quarrel(0, 0), a ring's LOW alone being LARGE", low.quarrel(0, 0), LARGE);
+        low.forget();
+        for (int pair : new int[] {67, 78, 89, 90}) {
+            low.likeness(0, pair, 1000, 1);
+        }
+        due(17, "quarrel(0, 0), LOW being LARGE on the way, in one direction alone", low.quarrel(0, 0), LARGE);
     }
 
     private static void cure() {
@@ -1269,13 +1279,13 @@ public final class PromisesTest {
         slipTotalLarge();
     }
 
-    /** LOW of TOTAL is 5 * 10^14, its HIGH would be 1.5 * 10^15; one that is taken out would be RIGHT. */
+    /** LOW is 1.25 * 10^14, of twice the line 2.5 * 10^14, HIGH beyond 10^15; taken out, it would be RIGHT. */
     private static void slipHighAloneLarge() {
-        OldReckoner x = withLikenesses(new int[] {2, 1, 1000, 1}, new int[] {0, 12, 1000, 1},
+        OldReckoner x = withLikenesses(new int[] {4, 1, 1000, 1}, new int[] {0, 12, 1000, 1},
                 new int[] {0, 23, 1000, 1});
         x.doubt(0, 1, 500);
+        x.line(500000, 0, 0, 0);
         x.line(7, 3, 0, 0);
-        x.line(1000000, 0, 0, 0);
         due(29, "slip(3, 7), HIGH alone being LARGE", x.slip(3, 7), LARGE);
     }
 
