@@ -483,6 +483,15 @@ public final class TermsBoundariesTest {
         Bench.factorIs(x, 32, 1, 2, 1);
     }
 
+    static void oneTakenAsItIsHasItsOwnEnds() {
+        OldReckoner x = Bench.with(new int[] {2, 1, 1, 1}, new int[] {4, 23, 1, 1});
+        x.doubt(0, 1, 500);
+        Bench.factorIs(x, 1, 0, 1, 2);
+        Bench.factorIs(x, 1, 1, 3, 2);
+        Bench.factorIs(x, 23, 0, 1, 2);
+        Bench.factorIs(x, 23, 1, 2, 1);
+    }
+
     static void waysOfFewerLikenessesComeFirst() {
         OldReckoner x = Bench.with(new int[] {0, 2, 1, 1}, new int[] {0, 21, 1, 1}, new int[] {0, 1, 1, 1});
         Bench.wayIs(x, 1, 0, 2);
@@ -621,6 +630,27 @@ public final class TermsBoundariesTest {
         OldReckoner x = Bench.with(new int[] {0, 77, 1, 1}, new int[] {0, 12, 1, 1}, new int[] {0, 1, 1, 1},
                 new int[] {0, 20, 2, 1});
         Bench.quarrelIs(x, 1, 3, 2);
+    }
+
+    /** Thousandths and thousandfolds, behind some of no weight, as a ring. */
+    private static OldReckoner ringUpAndDown(int idle) {
+        int[] p = {1, 1, 1, 1000, 1000, 1000, 1000, 1000, 1, 1};
+        int[] q = {1000, 1000, 1000, 1, 1, 1, 1, 1, 1000, 1000};
+        OldReckoner x = new OldReckoner();
+        for (int n = 0; n < idle; n++) {
+            x.likeness(0, 0, 1, 1);
+        }
+        for (int i = 0; i < 10; i++) {
+            x.likeness(0, 10 * i + (i + 1) % 10, p[i], q[i]);
+        }
+        return x;
+    }
+
+    /** From its least number on it is never beyond 10^9 on the way; from its fourth one on it would be 10^15. */
+    static void ringIsReckonedFromItsLeastNumberOn() {
+        Bench.quarrelIs(ringUpAndDown(0));
+        Bench.quarrelIs(ringUpAndDown(14));
+        Bench.due("cure(0)", ringUpAndDown(14).cure(0), 0);
     }
 
     static void withNoLikenessesThereIsNoQuarrel() {
@@ -964,6 +994,25 @@ public final class TermsBoundariesTest {
         Bench.due("slip(4, 12): 12 for 10 of line 0", greatLines(10, 400000, -400000).slip(4, 12), 3);
     }
 
+    /**
+     * Below the line TOTAL has some 1.8 * 10^15 on the way, with 1 / 2 in it; with twice the first amount it has
+     * half as much, and that would be RIGHT.
+     */
+    static void slipWhoseTotalAloneIsLargeIsLarge() {
+        OldReckoner x = Bench.with(new int[] {0, 10, 1, 2}, new int[] {0, 21, 1, 997}, new int[] {0, 32, 1, 991},
+                new int[] {0, 43, 1, 983}, new int[] {0, 54, 1, 977}, new int[] {0, 60, 1, 971},
+                new int[] {2, 70, 2, 1});
+        x.doubt(6, 1, 500);
+        x.line(1, 5, 0, 0);
+        x.line(1, 7, 0, 0);
+        x.line(-2, 0, 0, 0);
+        x.line(1, 6, 0, 0);
+        Bench.totalAnswers(x, 0, LARGE);
+        Bench.due("slip(0, 0)", x.slip(0, 0), LARGE);
+        x.amend(0, 2);
+        Bench.due("slip(0, 0) with twice the first amount", x.slip(0, 0), 0);
+    }
+
     static void slipWhoseTotalIsLargeIsLarge() {
         Bench.due("slip(4, 7)", greatLines(7, 600000, 400000).slip(4, 7), LARGE);
         Bench.due("slip(4, 7)", greatLines(7, -600000, -400000).slip(4, 7), LARGE);
@@ -986,6 +1035,7 @@ public final class TermsBoundariesTest {
         Bench.due("slip(0, 40)", amounts(48).slip(0, 40), 4);
         Bench.due("slip(0, -40)", amounts(-48).slip(0, -40), 4);
         Bench.due("slip(0, 10)", amounts(12).slip(0, 10), 4);
+        Bench.due("slip(0, 833330)", amounts(999996).slip(0, 833330), 4);
     }
 
     static void slipTenForTwelveOnlyIfTwelveDivides() {

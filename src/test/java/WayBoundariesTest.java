@@ -324,6 +324,18 @@ public final class WayBoundariesTest {
         Bench.spanIs(x, 5, 1, 999000000000000L, 1);
     }
 
+    /** The way that is met first is not LARGE; of the later one LOW alone, or HIGH alone, is. */
+    static void promise16ALaterWaysOneEndLargeIsLarge() {
+        OldReckoner high = Bench.with(new int[] {0, 5, 7, 1}, new int[] {2, 1, 1000, 1}, new int[] {0, 12, 1000, 1},
+                new int[] {0, 23, 1000, 1}, new int[] {0, 34, 1000, 1}, new int[] {0, 45, 1000, 1});
+        high.doubt(1, 1, 500);
+        Bench.spanIsLarge(high, 5);
+        OldReckoner low = Bench.with(new int[] {0, 5, 7, 1}, new int[] {2, 1, 1, 1000}, new int[] {0, 12, 1, 1000},
+                new int[] {0, 23, 1, 1000}, new int[] {0, 34, 1, 1000}, new int[] {0, 45, 1, 900});
+        low.doubt(1, 1, 500);
+        Bench.spanIsLarge(low, 5);
+    }
+
     static void promise16AWayThatDoesNotCountMayBeLarge() {
         OldReckoner x = highAloneLarge();
         x.likeness(0, 5, 7, 1);
@@ -409,6 +421,33 @@ public final class WayBoundariesTest {
         OldReckoner x = lowAloneLarge();
         x.likeness(0, 60, 1, 1);
         Bench.due("quarrel(0, 0)", x.quarrel(0, 0), LARGE);
+    }
+
+    private static OldReckoner doubtfulRing(int[] p, int[] q) {
+        OldReckoner x = Bench.with(new int[] {2, 1, 1, 1});
+        for (int i = 0; i < 9; i++) {
+            x.likeness(0, 10 * (i + 1) + (i + 2) % 10, p[i], q[i]);
+        }
+        x.doubt(0, 1, 500);
+        return x;
+    }
+
+    /** On the way LOW is 1 by 1.8 * 10^15, HIGH 1 by 6 * 10^14; in the other direction both are greater. */
+    static void promise17LowAloneLargeOnTheWayInOneDirectionIsLarge() {
+        int[] p = {1, 1, 1, 1, 1, 1000, 1000, 1000, 1000};
+        int[] q = {1000, 1000, 1000, 1000, 900, 1, 1, 1, 1};
+        Bench.due("quarrel(0, 0)", doubtfulRing(p, q).quarrel(0, 0), LARGE);
+        q[4] = 499;
+        Bench.due("quarrel(0, 0)", doubtfulRing(p, q).quarrel(0, 0), 100);
+    }
+
+    /** On the way HIGH is 1.35 * 10^15, LOW a third of it; in the other direction both are less. */
+    static void promise17HighAloneLargeOnTheWayInOneDirectionIsLarge() {
+        int[] p = {1000, 1000, 1000, 1000, 900, 1, 1, 1, 1};
+        int[] q = {1, 1, 1, 1, 1, 1000, 1000, 1000, 1000};
+        Bench.due("quarrel(0, 0)", doubtfulRing(p, q).quarrel(0, 0), LARGE);
+        p[4] = 666;
+        Bench.due("quarrel(0, 0)", doubtfulRing(p, q).quarrel(0, 0), 0);
     }
 
     static void promise17ARingThatDoesNotCountMayBeLarge() {
@@ -520,6 +559,26 @@ public final class WayBoundariesTest {
         Bench.due("cure(0)", x.cure(0), 0);
         x.doubt(0, 1, 99);
         Bench.due("cure(0)", x.cure(0), 1);
+    }
+
+    static void promise18IsReckonedAnewEachTime() {
+        OldReckoner x = Bench.with(new int[] {2, 1, 10, 1}, new int[] {0, 1, 11, 1});
+        Bench.due("cure(0)", x.cure(0), 1);
+        x.doubt(0, 1, 100);
+        Bench.due("cure(0)", x.cure(0), 0);
+        OldReckoner sure = Bench.with(new int[] {0, 1, 10, 1}, new int[] {0, 1, 11, 1});
+        Bench.due("cure(0)", sure.cure(0), NONE);
+        sure.forget();
+        Bench.due("cure(0)", sure.cure(0), 0);
+    }
+
+    static void promise18ASureOneInAForgottenDoubtfulOnesPlace() {
+        OldReckoner x = Bench.with(new int[] {2, 55, 2, 1});
+        Bench.due("cure(0)", x.cure(0), 1);
+        x.forget();
+        x.likeness(0, 55, 2, 1);
+        x.likeness(2, 1, 1, 1);
+        Bench.due("cure(0)", x.cure(0), NONE);
     }
 
     // ---- promise 19: heal
