@@ -210,6 +210,20 @@ public final class TermsBoundariesTest {
         farAboveIsDue(1, false);
     }
 
+    /** a is 10^12 + 10^6 + 1, over SHARED; d / g is 999999, and 735058 makes SHARED cancel. */
+    static void sumWhoseFirstProductIsOneLessIsNotLarge() {
+        OldReckoner x = Bench.with(new int[] {0, 10, 1, 997}, new int[] {0, 21, 1, 991}, new int[] {0, 32, 1, 999},
+                new int[] {0, 43, 1, 91}, new int[] {0, 54, 1, 11}, new int[] {0, 62, 1000, 1},
+                new int[] {0, 76, 1000, 1});
+        x.line(1000000, 7, 0, 0);
+        x.line(1000000, 2, 0, 0);
+        x.line(1, 2, 0, 0);
+        Bench.totalIs(x, 0, 0, 1000001000001L, SHARED);
+        x.line(735058, 5, 0, 0);
+        Bench.totalIs(x, 0, 0, (999999999999999999L + 735058) / SHARED, 999999);
+        Bench.totalIs(x, 0, 1, (999999999999999999L + 735058) / SHARED, 999999);
+    }
+
     static void sumWhoseFirstProductIsOfThatSizeBelowZeroIsLarge() {
         farAboveIsDue(-1, true);
     }
