@@ -518,7 +518,8 @@ public final class OldReckoner {
     private int customsThere() {
         int many = 0;
         for (int i = 0; i < CUSTOMS; i++) {
-            if (!customs[i].missing) {
+            Custom it = customs[i];
+            if (it != null && !it.missing) {
                 many++;
             }
         }
@@ -838,7 +839,7 @@ public final class OldReckoner {
         boolean choose(Trail trail) {
             for (int i = 0; i < trail.opened; i++) {
                 Likeness it = trail.open[i];
-                if (it.is(DOUBTFUL)) {
+                if (it != null && it.is(DOUBTFUL)) {
                     if (chosen >= MOST_CHOICES) {
                         return false;
                     }
@@ -919,8 +920,9 @@ public final class OldReckoner {
         private int worthOf(int bits) {
             int sum = 0;
             for (int i = 0; i < chosen; i++) {
-                if ((bits >> i & 1) == 1) {
-                    sum += choices[i].worth;
+                Likeness it = choices[i];
+                if (it != null && (bits >> i & 1) == 1) {
+                    sum += it.worth;
                 }
             }
             return sum;
@@ -929,8 +931,9 @@ public final class OldReckoner {
         private long byNumbers(int bits) {
             long numbers = 0;
             for (int i = 0; i < chosen; i++) {
-                if ((bits >> i & 1) == 1) {
-                    numbers |= 1L << choices[i].number;
+                Likeness it = choices[i];
+                if (it != null && (bits >> i & 1) == 1) {
+                    numbers |= 1L << it.number;
                 }
             }
             return numbers;
@@ -1006,12 +1009,14 @@ public final class OldReckoner {
             over = false;
             for (int i = 0; i < 2 * opened && !over; i++) {
                 Likeness it = open[i / 2];
-                boolean turned = i % 2 == 1;
-                int from = turned ? it.a : it.b;
-                aim(turned ? it.b : it.a, i / 2 + 1);
-                limit = MEASURES;
-                take(it, turned, 0);
-                extend(this, goal, from, 1 << from, 1);
+                if (it != null) {
+                    boolean turned = i % 2 == 1;
+                    int from = turned ? it.a : it.b;
+                    aim(turned ? it.b : it.a, i / 2 + 1);
+                    limit = MEASURES;
+                    take(it, turned, 0);
+                    extend(this, goal, from, 1 << from, 1);
+                }
             }
         }
 
@@ -1030,8 +1035,11 @@ public final class OldReckoner {
             for (int round = 0; round < MEASURES && changed; round++) {
                 changed = false;
                 for (int i = firstOpen; i < opened; i++) {
-                    changed |= draw(open[i].a, open[i].b);
-                    changed |= draw(open[i].b, open[i].a);
+                    Likeness it = open[i];
+                    if (it != null) {
+                        changed |= draw(it.a, it.b);
+                        changed |= draw(it.b, it.a);
+                    }
                 }
             }
         }
@@ -1067,6 +1075,9 @@ public final class OldReckoner {
             }
             for (int i = trail.firstOpen; i < trail.opened && !trail.over; i++) {
                 Likeness it = trail.open[i];
+                if (it == null) {
+                    continue;
+                }
                 int next = it.across(at);
                 if (next >= 0 && (met >> next & 1) == 0
                         && depth + 1 + trail.distance[next] <= trail.limit) {
@@ -1098,9 +1109,9 @@ public final class OldReckoner {
         long partOf(long v, int i) {
             long left = v;
             for (int s = size - 1; s >= i; s--) {
-                left /= steps[s];
+                left /= stepAt(s);
             }
-            return i == 0 ? left : left % steps[i - 1];
+            return i == 0 ? left : left % stepAt(i - 1);
         }
 
         long putTogether(long parts) {
@@ -1111,10 +1122,15 @@ public final class OldReckoner {
                 sum += left % GROUP * worth;
                 left /= GROUP;
                 if (i > 0) {
-                    worth *= steps[i - 1];
+                    worth *= stepAt(i - 1);
                 }
             }
             return sum;
+        }
+
+        /** Never below LEAST_STEP, so that it may divide. */
+        private int stepAt(int place) {
+            return place >= 0 && place < MOST_STEPS ? Math.max(steps[place], LEAST_STEP) : LEAST_STEP;
         }
     }
 

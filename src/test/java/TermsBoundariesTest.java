@@ -750,6 +750,20 @@ public final class TermsBoundariesTest {
         Bench.refused(LARGE, "heal(0)", () -> doubtfulOnes(11), x -> x.heal(0));
     }
 
+    /** One of the eleven is at odds with the others, and would be the cure. */
+    static void elevenToChooseFromAreLargeThoughOneWouldHelp() {
+        OldReckoner x = Bench.with(new int[] {2, 33, 2, 1});
+        for (int i = 0; i < 10; i++) {
+            x.likeness(2, 1, 1, 1);
+        }
+        Bench.due("cure(0) of eleven", x.cure(0), LARGE);
+        Bench.due("heal(0) of eleven", x.heal(0), LARGE);
+        Bench.due("count(1)", x.count(1), 0);
+        Bench.quarrelIs(x, 0);
+        x.forget();
+        Bench.due("cure(0) of ten", x.cure(0), 1);
+    }
+
     static void elevenOfWhichOneIsDroppedAreTenToChooseFrom() {
         OldReckoner x = doubtfulOnes(11);
         x.drop(10, 1);
@@ -1006,6 +1020,12 @@ public final class TermsBoundariesTest {
     static void slipBehindALargeOneIsLarge() {
         Bench.due("slip(4, 12): 12 for 10 of line 0", greatLines(10, 600000, -600000).slip(4, 12), LARGE);
         Bench.due("slip(4, 12): 12 for 10 of line 0", greatLines(10, 400000, -400000).slip(4, 12), 3);
+    }
+
+    /** A LARGE one can't be told from a RIGHT one, so that there is no such slip can't be told either. */
+    static void slipAmongWhichOneIsLargeAndNoneRightIsLarge() {
+        Bench.due("slip(4, 1): twice line 1 is LARGE", greatLines(7, 600000).slip(4, 1), LARGE);
+        Bench.due("slip(4, 1): none is LARGE", greatLines(7, 400000).slip(4, 1), NONE);
     }
 
     /**
